@@ -16,6 +16,7 @@ public final class Promise07GoTest {
         rinseThatMayBe();
         noRinseWhileACupWaits();
         brewsOnlyWhenHot();
+        heatOfAnIdleMachine();
         heatHasNoFloor();
         Due.end();
     }
@@ -382,6 +383,15 @@ public final class Promise07GoTest {
                 x.go(1);
                 Due.is("hot again", x.cup(0, 0), 3);
             }
+        }
+    }
+
+    private static void heatOfAnIdleMachine() {
+        CupByCup x = new CupByCup(2, 6);
+        int[] due = {913, 926, 939, 952, 951, 950, 963, 962};
+        for (int i = 0; i < due.length; i++) {
+            x.go(1);
+            Due.is("heat behind tick " + i, x.count(1), due[i]);
         }
     }
 

@@ -29,6 +29,9 @@ public final class Promise13BestTest {
     private static void shortOnesGoAhead() {
         due("long and short", withCups(1, 10930000, 10101000), 42, 1, 0);
         due("three", withCups(1, 10530000, 10320000, 10110000), 11 + 31 + 61, 2, 1, 0);
+        due("the last one of all orders",
+                withCups(1, 10130000, 10120000, 10110000, 10105000, 10101000),
+                2 + 7 + 17 + 37 + 67, 4, 3, 2, 1, 0);
         due("one", withCups(1, 10304100), 17, 0);
     }
 
