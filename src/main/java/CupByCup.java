@@ -118,7 +118,10 @@ public final class CupByCup {
         if (!isAmong(which, STORES) || n < 1 || n > MOST_GRAMS_AT_ONCE) {
             return NONE;
         }
-        stores[which] = Math.min(stores[which] + n, MOST_GRAMS_IN_STORE);
+        if (n > MOST_GRAMS_IN_STORE - stores[which]) {
+            return NONE;
+        }
+        stores[which] += n;
         return stores[which];
     }
 

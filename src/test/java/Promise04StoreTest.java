@@ -3,6 +3,8 @@ public final class Promise04StoreTest {
         gramsCome();
         othersAreRefused();
         aStoreHoldsNoMore();
+        aStoreThatGaveTakesAgain();
+        callsOfOneSizeUpToTheMost();
         Due.end();
     }
 
@@ -32,14 +34,43 @@ public final class Promise04StoreTest {
     }
 
     private static void aStoreHoldsNoMore() {
-        CupByCup x = new CupByCup(1, 30);
-        for (int i = 1; i <= 9; i++) {
-            Due.is("store(1, 10000)", x.store(1, 10000), i * 10000);
+        for (int which = 0; which <= 2; which++) {
+            CupByCup x = new CupByCup(1, 30);
+            for (int i = 1; i <= 9; i++) {
+                Due.is("store(" + which + ", 10000)", x.store(which, 10000), i * 10000);
+            }
+            Due.is("one less than full", x.store(which, 9999), 99999);
+            Due.is("one gram too many", x.store(which, 2), -1);
+            Due.is("far too many", x.store(which, 10000), -1);
+            Due.is("what was refused isn't there", x.count(6 + which), 99999);
+            Due.is("the last gram", x.store(which, 1), 100000);
+            Due.is("a gram above", x.store(which, 1), -1);
+            Due.is("full", x.count(6 + which), 100000);
+            Due.is("another store", x.store((which + 1) % 3, 7), 7);
         }
-        Due.is("one less than full", x.store(1, 9999), 99999);
-        Due.is("what is above 100000 isn't there", x.store(1, 2), 100000);
-        Due.is("nor behind that", x.store(1, 10000), 100000);
-        Due.is("water", x.count(7), 100000);
-        Due.is("another store", x.store(0, 7), 7);
+    }
+
+    private static void aStoreThatGaveTakesAgain() {
+        CupByCup x = new CupByCup(1, 30);
+        for (int i = 0; i < 10; i++) {
+            x.store(0, 10000);
+        }
+        x.recipe(10203000, 50000);
+        x.order(0, 1, 0);
+        x.go(1);
+        Due.is("ten grams went", x.count(6), 99990);
+        Due.is("eleven don't come", x.store(0, 11), -1);
+        Due.is("still", x.count(6), 99990);
+        Due.is("ten come", x.store(0, 10), 100000);
+    }
+
+    private static void callsOfOneSizeUpToTheMost() {
+        CupByCup x = new CupByCup(0, 0);
+        for (int i = 1; i <= 113; i++) {
+            Due.is("store(0, 880)", x.store(0, 880), i * 880);
+        }
+        Due.is("the 114th store(0, 880)", x.store(0, 880), -1);
+        Due.is("beans", x.count(6), 99440);
+        Due.is("as many as there is room for", x.store(0, 560), 100000);
     }
 }
