@@ -27,11 +27,50 @@ final class Due {
         is(call, got ? 1 : 0, 0);
     }
 
+    static void same(String when, CupByCup x, CupByCup other) {
+        String due = seen(other);
+        String got = seen(x);
+        if (!got.equals(due)) {
+            wrong++;
+            System.out.println(when + ": seen " + got + ", due is " + due);
+        }
+    }
+
     static void end() {
         if (wrong != 0) {
             System.out.println(wrong + " answers are not as due");
             System.exit(1);
         }
+    }
+
+    /** What recipe and alter take first. */
+    static int what(int beans, int grind, int brew, int steam) {
+        return beans * 1000000 + grind * 100000 + brew * 1000 + steam * 10;
+    }
+
+    /** What recipe and alter take second. */
+    static int wet(int water, int milk) {
+        return water * 1000 + milk;
+    }
+
+    /** A machine without recipes, with so many grams (0 .. 10000) in its stores. */
+    static CupByCup stocked(int groups, int limit, int beans, int water, int milk) {
+        CupByCup x = new CupByCup(groups, limit);
+        int[] grams = {beans, water, milk};
+        for (int store = 0; store < 3; store++) {
+            if (grams[store] > 0) {
+                x.store(store, grams[store]);
+            }
+        }
+        return x;
+    }
+
+    /** Ticks go until NOW is the tick, be it 500 at once and more. */
+    static void goTo(CupByCup x, int tick) {
+        for (int i = 0; i < 50 && x.count(0) < tick; i++) {
+            x.go(Math.min(500, tick - x.count(0)));
+        }
+        is("NOW", x.count(0), tick);
     }
 
     /** A machine with the recipes PLAIN (0) and MILKY (1) and 10000 g in each store. */

@@ -1,7 +1,10 @@
+import java.util.Arrays;
 import java.util.Random;
 
 public final class Promise14SumTest {
     private static int least;
+    // Of the orders with the least sum the first one by numbers.
+    private static int[] first;
 
     public static void main(String[] args) {
         whereThereIsNone();
@@ -33,7 +36,9 @@ public final class Promise14SumTest {
             CupByCup x = new CupByCup(groups, 30);
             int[][] cups = new int[n][];
             for (int i = 0; i < n; i++) {
-                int[] c = {1 + random.nextInt(9), 1 + random.nextInt(30), random.nextInt(21)};
+                // Few kinds of cups, so that many orders have like sums.
+                int[] c = {1 + random.nextInt(run % 9 + 1), 1 + random.nextInt(run % 30 + 1),
+                    random.nextInt(run % 21 + 1), i};
                 cups[i] = c;
                 x.recipe(10000000 + c[0] * 100000 + c[1] * 1000 + c[2] * 10, 50000);
                 x.order(i, 1, random.nextInt(2));
@@ -41,17 +46,31 @@ public final class Promise14SumTest {
             least = Integer.MAX_VALUE;
             tryAll(cups, 0, groups);
             Due.is("sum() of run " + run, x.sum(), least);
+            for (int k = 0; k < n; k++) {
+                Due.is("best(" + k + ") of run " + run, x.best(k), first[k]);
+            }
         }
     }
 
     private static void tryAll(int[][] cups, int at, int groups) {
         if (at == cups.length) {
-            least = Math.min(least, tickByTick(cups, groups));
+            keepBest(cups, tickByTick(cups, groups));
         }
         for (int i = at; i < cups.length; i++) {
             swap(cups, at, i);
             tryAll(cups, at + 1, groups);
             swap(cups, at, i);
+        }
+    }
+
+    private static void keepBest(int[][] cups, int sum) {
+        int[] order = new int[cups.length];
+        for (int i = 0; i < order.length; i++) {
+            order[i] = cups[i][3];
+        }
+        if (sum < least || sum == least && Arrays.compare(order, first) < 0) {
+            least = sum;
+            first = order;
         }
     }
 
