@@ -7,6 +7,7 @@ public final class EdgesOfCallsTest {
         orders();
         takes();
         takesByHowACupIs();
+        takesOneByOne();
         goes();
         faults();
         limits();
@@ -116,6 +117,28 @@ public final class EdgesOfCallsTest {
             Due.is("cups that wait then", x.count(5), 0);
             Due.yes("refused changes nothing", canBe || Due.seen(x).equals(before));
         }
+    }
+
+    /** "(its beans are spoilt, if it lies GROUND)": those of each cup that is taken. */
+    private static void takesOneByOne() {
+        CupByCup x = Due.stocked(3, 30, 1000, 0, 0);
+        for (int i = 0; i < 3; i++) {
+            x.recipe(Due.what(5 + i, 1, 1, 0), Due.wet(10, 0));
+            x.order(i, 1, 0);
+        }
+        x.order(0, 1, 0);
+        x.go(4);
+        int spoilt = 0;
+        for (int cup = 0; cup < 3; cup++) {
+            Due.is("it lies", x.cup(cup, 0), 2);
+            Due.yes("take(" + cup + ")", x.take(cup));
+            spoilt += 5 + cup;
+            Due.is("beans spoilt behind take(" + cup + ")", x.count(9), spoilt);
+        }
+        Due.yes("take of one that waits", x.take(3));
+        Due.is("beans spoilt", x.count(9), spoilt);
+        Due.is("beans that went stay away", x.count(6), 1000 - spoilt);
+        Due.is("cups", x.count(3), 4);
     }
 
     /** "n TICKS go (0 .. 500; up to 20000): NOW; NONE for another n." */
