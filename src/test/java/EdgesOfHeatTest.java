@@ -174,19 +174,19 @@ public final class EdgesOfHeatTest {
     }
 
     private static void manyTicksAtOnceAreLikeOnes() {
-        CupByCup atOnce = Due.full(2, 12);
-        CupByCup oneByOne = Due.full(2, 12);
-        for (CupByCup x : new CupByCup[] {atOnce, oneByOne}) {
-            x.order(0, 6, 1);
-            x.order(1, 6, 0);
-            x.fault(1, 33);
-        }
-        for (int n : new int[] {0, 1, 7, 40, 60, 200}) {
-            int now = atOnce.go(n);
+        for (int n : new int[] {0, 1, 8, 48, 108, 308}) {
+            CupByCup atOnce = Due.full(2, 12);
+            CupByCup oneByOne = Due.full(2, 12);
+            for (CupByCup x : new CupByCup[] {atOnce, oneByOne}) {
+                x.order(0, 6, 1);
+                x.order(1, 6, 0);
+                x.fault(1, 33);
+            }
+            atOnce.go(n);
             for (int i = 0; i < n; i++) {
                 oneByOne.go(1);
             }
-            Due.same("behind tick " + now, atOnce, oneByOne);
+            Due.same("behind " + n + " ticks", atOnce, oneByOne);
         }
     }
 }

@@ -1,61 +1,20 @@
-/**
- * "What is refused changes nothing.": of two like machines one is asked, ahead of each tick, for
- * all that can't be; both go on alike, whatever comes later.
- */
+/** "What is refused changes nothing.": a machine is asked for all that can't be. */
 public final class RefusedCallsTest {
     private static final int[] FAR = {Integer.MIN_VALUE, Integer.MAX_VALUE};
+    // So that no machine is used for more than 512 calls.
+    private static final int MOST_CUPS_TAKEN = 30;
 
     public static void main(String[] args) {
-        aMachineAtWork();
-        aMachineThatIsFull();
+        AtWork.ROOMY.changesNothing("refused", x -> refuse(x));
+        AtWork.FULL.changesNothing("refused", x -> refuse(x));
+        AtWork.FULL.changesNothing("refused, as it is full", x -> refuseMore(x));
+        whatIsRefusedIsSeen();
         aMachineWithoutAnything();
         Due.end();
     }
 
     private static void none(String call, int answer) {
         Due.is(call, answer, -1);
-    }
-
-    private static void aMachineAtWork() {
-        CupByCup x = atWork();
-        CupByCup other = atWork();
-        for (int tick = 0; tick < 150; tick++) {
-            refuse(x);
-            Due.same("refused ahead of tick " + tick, x, other);
-            later(x, tick);
-            later(other, tick);
-            Due.same("behind tick " + tick, x, other);
-        }
-    }
-
-    private static CupByCup atWork() {
-        CupByCup x = Due.stocked(2, 12, 300, 1500, 500);
-        x.recipe(Due.PLAIN, Due.PLAIN_WET);
-        x.recipe(Due.MILKY, Due.MILKY_WET);
-        x.recipe(Due.what(5, 1, 2, 0), Due.wet(10, 0));
-        x.order(0, 2, 1);
-        x.order(1, 2, 0);
-        x.order(2, 6, 0);
-        return x;
-    }
-
-    /** What both machines are asked for alike, so that a hidden change would come to light. */
-    private static void later(CupByCup x, int tick) {
-        switch (tick) {
-            case 6: x.fault(1, 4); break;
-            case 20: x.order(2, 6, 1); break;
-            case 40: x.recipe(Due.what(7, 2, 2, 2), Due.wet(20, 20)); break;
-            case 41: x.order(3, 3, 0); break;
-            case 50: x.alter(0, Due.what(6, 1, 1, 1), Due.wet(30, 30)); break;
-            case 51: x.order(0, 5, 0); break;
-            case 60: x.tell(511, 500); break;
-            case 70: x.limit(9); break;
-            case 80: x.store(0, 100); break;
-            case 90: x.take(2); break;
-            case 91: x.order(1, 6, 1); break;
-            default: break;
-        }
-        x.go(1);
     }
 
     private static void refuse(CupByCup x) {
@@ -110,12 +69,14 @@ public final class RefusedCallsTest {
     }
 
     private static void refuseTakes(CupByCup x) {
-        for (int cup : new int[] {-1, x.count(3), 100, FAR[0], FAR[1]}) {
+        int cups = x.count(3);
+        for (int cup : new int[] {-1, cups, 100, FAR[0], FAR[1]}) {
             Due.no("take(" + cup + ")", x.take(cup));
         }
-        for (int cup = 0; cup < x.count(3); cup++) {
-            if (x.cup(cup, 0) != 0 && x.cup(cup, 0) != 2) {
-                Due.no("take of one that is " + x.cup(cup, 0), x.take(cup));
+        for (int cup = 0; cup < Math.min(MOST_CUPS_TAKEN, cups); cup++) {
+            int how = x.cup(cup, 0);
+            if (how != 0 && how != 2) {
+                Due.no("take of one that is " + how, x.take(cup));
             }
         }
     }
@@ -139,42 +100,35 @@ public final class RefusedCallsTest {
         }
     }
 
-    /** 8 recipes, 100 cups and 100000 grams in each store: nothing more comes. */
-    private static CupByCup full() {
-        CupByCup x = new CupByCup(3, 30);
-        for (int i = 0; i < 8; i++) {
-            x.recipe(Due.what(5 + i, 1, 1 + i, 0), Due.wet(10, 0));
+    /** Of a machine with 8 recipes, 95 cups at least and more than 90000 grams in each store. */
+    private static void refuseMore(CupByCup x) {
+        none("a ninth recipe", x.recipe(Due.PLAIN, Due.PLAIN_WET));
+        none("another one", x.recipe(Due.MILKY, Due.MILKY_WET));
+        for (int store = 0; store < 3; store++) {
+            none("store(" + store + ", 10000)", x.store(store, 10000));
+            int room = 100000 - x.count(6 + store);
+            none("a gram too many in " + store, x.store(store, room + 1));
         }
-        for (int i = 0; i < 30; i++) {
-            x.store(i % 3, 10000);
+        for (int n = 101 - x.count(3); n <= 6; n++) {
+            none("order(0, " + n + ", 0)", x.order(0, n, 0));
+            none("order(7, " + n + ", 1)", x.order(7, n, 1));
         }
-        for (int i = 0; i < 20; i++) {
-            x.order(i % 8, 5, i % 2);
-        }
-        return x;
     }
 
-    private static void aMachineThatIsFull() {
-        CupByCup x = full();
-        CupByCup other = full();
-        for (int store = 0; store < 3; store++) {
-            none("store(" + store + ", 1)", x.store(store, 1));
-            none("store(" + store + ", 10000)", x.store(store, 10000));
+    /** What must go on in the two machines at work, so that the tests above tell something. */
+    private static void whatIsRefusedIsSeen() {
+        for (AtWork machine : AtWork.values()) {
+            CupByCup x = machine.at(150);
+            Due.yes(machine + ": cups are done", x.count(4) >= 20);
+            Due.yes(machine + ": beans are spoilt", x.count(9) > 0);
+            Due.yes(machine + ": rinses are done", x.count(10) >= 2);
+            Due.no(machine + ": the setting at first", x.count(11) == 50);
+            Due.is(machine + ": cup 0 was thrown away", x.cup(0, 7), 1);
         }
-        for (int n = 1; n <= 6; n++) {
-            none("order(0, " + n + ", 0)", x.order(0, n, 0));
+        CupByCup full = AtWork.FULL.at(150);
+        for (int cup = 95; cup < 100; cup++) {
+            Due.is("FULL: a cup that came later is done", full.cup(cup, 0), 6);
         }
-        none("recipe", x.recipe(Due.PLAIN, Due.PLAIN_WET));
-        refuse(x);
-        Due.same("at first", x, other);
-        for (int i = 0; i < 100; i++) {
-            x.go(5);
-            other.go(5);
-            none("order(7, 1, 1)", x.order(7, 1, 1));
-            none("recipe", x.recipe(Due.PLAIN, Due.PLAIN_WET));
-            Due.same("at " + x.count(0), x, other);
-        }
-        Due.is("all are done", x.count(4), 100);
     }
 
     private static void aMachineWithoutAnything() {
@@ -187,7 +141,7 @@ public final class RefusedCallsTest {
         none("best(0)", x.best(0));
         none("sum()", x.sum());
         none("cup(0, 0)", x.cup(0, 0));
-        Due.same("at first", x, other);
+        Due.same("without anything", x, other);
         Due.is("the first recipe", x.recipe(Due.PLAIN, Due.PLAIN_WET), 0);
         Due.is("the first cup", x.order(0, 1, 0), 0);
         Due.is("grams", x.store(0, 1), 1);
