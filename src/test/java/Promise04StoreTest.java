@@ -62,6 +62,7 @@ public final class Promise04StoreTest {
         Due.is("eleven don't come", x.store(0, 11), -1);
         Due.is("still", x.count(6), 99990);
         Due.is("ten come", x.store(0, 10), 100000);
+        Due.is("the next recipe has the next number", x.recipe(10203000, 50000), 1);
     }
 
     private static void callsOfOneSizeUpToTheMost() {
